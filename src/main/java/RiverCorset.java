@@ -89,11 +89,11 @@ public final class RiverCorset {
     private final State now = new State();
     private final Memory memory = new Memory();
     private final Water water = new Water();
-    private final Lacer lacer = new Lacer(water);
-    private final Wharf wharf = new Wharf(water);
-    private final MudBook mudBook = new MudBook(water);
-    private final Parishes parishes = new Parishes(water);
-    private final Almanac almanac = new Almanac(water);
+    private final Lacer lacer = new Lacer();
+    private final Wharf wharf = new Wharf();
+    private final MudBook mudBook = new MudBook();
+    private final Parishes parishes = new Parishes();
+    private final Almanac almanac = new Almanac();
     private River told = new River();
     private int troubled = NOT_REFUSED;
 
@@ -340,16 +340,14 @@ public final class RiverCorset {
         if (!isBoat(b)) {
             return refused(NO_SUCH);
         }
-        pourNow();
-        return answered(wharf.passed(told, b));
+        return answered(wharf.passedNow(told, now, b));
     }
 
     public int stuck(int b) {
         if (!isBoat(b)) {
             return refused(NO_SUCH);
         }
-        pourNow();
-        int passed = wharf.passed(told, b);
+        int passed = wharf.passedNow(told, now, b);
         for (int r = 0; r < told.reaches; r++) {
             if (!isIn(passed, r)) {
                 return answered(r);
@@ -369,8 +367,7 @@ public final class RiverCorset {
         if (noRiver()) {
             return refused(NO_SUCH);
         }
-        pourNow();
-        return answered(wharf.farthest(told));
+        return answered(wharf.farthest(told, now));
     }
 
     public int needs(int k) {
@@ -583,8 +580,7 @@ public final class RiverCorset {
             return refused(NO_SUCH);
         }
         memory.keep(now);
-        almanac.passYear(told, now);
-        return answered(water.allHarm);
+        return answered(almanac.passYear(told, now));
     }
 
     public boolean seed(int v) {
@@ -1364,17 +1360,13 @@ public final class RiverCorset {
 
     /** Which ropes to lace; sets go up by their bits, so the first of like ones has the least. */
     private static final class Lacer {
-        final Water water;
+        private final Water water = new Water();
         int count;
         int fewest;
         int shortest;
         int shortestSum;
         int changed;
         int changedHarm;
-
-        Lacer(Water water) {
-            this.water = water;
-        }
 
         void search(River river, State now) {
             count = 0;
@@ -1443,15 +1435,16 @@ public final class RiverCorset {
         }
     }
 
-    /** Boats and hands; those by what is NOW look at the water as it was poured last. */
+    /** What boats and hands can do. */
     private static final class Wharf {
-        final Water water;
+        private final Water water = new Water();
 
-        Wharf(Water water) {
-            this.water = water;
+        int passedNow(River river, State now, int b) {
+            water.run(river, now.laced, now.flow);
+            return passed(river, b);
         }
 
-        int passed(River river, int b) {
+        private int passed(River river, int b) {
             int bits = 0;
             for (int r = 0; r < river.reaches; r++) {
                 if (water.width[r] >= river.boatWide[b] && water.depth[r] >= river.boatDeep[b]) {
@@ -1461,7 +1454,8 @@ public final class RiverCorset {
             return bits;
         }
 
-        int farthest(River river) {
+        int farthest(River river, State now) {
+            water.run(river, now.laced, now.flow);
             int first = NOTHING;
             int most = NONE;
             for (int b = 0; b < river.boats; b++) {
@@ -1515,7 +1509,7 @@ public final class RiverCorset {
 
     /** Which ropes the mud says were let out, and where to measure next. */
     private static final class MudBook {
-        final Water water;
+        private final Water water = new Water();
         /** DEPTHS by each set that fits, kept so that choosing a reach pours nothing again. */
         final int[] depths = new int[MOST_SETS * MOST_REACHES];
         final int[] tally = new int[MOST_FLOW + 1];
@@ -1524,10 +1518,6 @@ public final class RiverCorset {
         int inAll;
         int asked;
         int left;
-
-        MudBook(Water water) {
-            this.water = water;
-        }
 
         void search(River river, State now) {
             count = 0;
@@ -1597,17 +1587,13 @@ public final class RiverCorset {
     private static final class Parishes {
         private static final int PULLS = MOST_PULL + 1;
 
-        final Water water;
+        private final Water water = new Water();
         final int[] ones = new int[PULLS * PULLS];
         final int[] others = new int[PULLS * PULLS];
         int oneHas;
         int otherHas;
         int count;
         int first;
-
-        Parishes(Water water) {
-            this.water = water;
-        }
 
         void pull(River river, State now, int one, int other) {
             int last = Math.max(0, river.reaches - 1);
@@ -1653,17 +1639,13 @@ public final class RiverCorset {
 
     /** YEARS by DRAWS. */
     private static final class Almanac {
-        final Water water;
+        private final Water water = new Water();
         final State trial = new State();
         int harmDone;
         int floodYear;
 
-        Almanac(Water water) {
-            this.water = water;
-        }
-
-        /** Leaves the water as it is poured when HARM is done, behind the bursting. */
-        void passYear(River river, State state) {
+        /** HARM of all; the water is left as it is poured then, behind the bursting. */
+        int passYear(River river, State state) {
             state.seed = (75 * state.seed + 74) % 65537;
             state.flow = Math.max(1, river.flow + state.seed % 61 - 30);
             water.run(river, state.laced, state.flow);
@@ -1676,6 +1658,7 @@ public final class RiverCorset {
                     state.wear[k]++;
                 }
             }
+            return water.allHarm;
         }
 
         void pass(River river, State now, int seed, int years) {
@@ -1684,8 +1667,7 @@ public final class RiverCorset {
             harmDone = 0;
             floodYear = 0;
             for (int year = 1; year <= years; year++) {
-                passYear(river, trial);
-                harmDone += water.allHarm;
+                harmDone += passYear(river, trial);
                 if (floodYear == 0 && water.spilling != 0) {
                     floodYear = year;
                 }

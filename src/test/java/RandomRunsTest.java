@@ -47,6 +47,11 @@ public final class RandomRunsTest {
         return least + draws.nextInt(most - least + 1);
     }
 
+    /** One of -1 to a few, or now and then a number far out. */
+    private int few(int most) {
+        return draws.nextInt(30) == 0 ? draws.nextInt() : one(-1, most);
+    }
+
     private void tell(int run) {
         String text = text();
         if (draws.nextInt(3) == 0 || run % 4 == 0) {
@@ -61,7 +66,7 @@ public final class RandomRunsTest {
             }
             check.due("run " + run + " feed", x.feed(five[0], five[1], five[2], five[3], five[4]), oracle.feed(five));
         }
-        int n = draws.nextInt(20) == 0 ? one(-2, 920) : text.length();
+        int n = draws.nextInt(20) == 0 ? few(920) : text.length();
         compare(run, "river", n, 0, false);
         check.due("run " + run + " fault of " + text, x.fault(), oracle.fault);
         check.due("run " + run + " where of " + text, x.where(), oracle.where());
@@ -124,22 +129,22 @@ public final class RandomRunsTest {
                 compare(run, NO_NUMBER[draws.nextInt(NO_NUMBER.length)], 0, 0, false);
                 break;
             case 3: case 4: case 5:
-                compare(run, SMALL[draws.nextInt(SMALL.length)], one(-1, 7), one(-1, 8), draws.nextBoolean());
+                compare(run, SMALL[draws.nextInt(SMALL.length)], few(7), few(12), draws.nextBoolean());
                 break;
             case 6:
                 String name = LARGE[draws.nextInt(LARGE.length)];
-                int flow = draws.nextInt(10) == 0 ? new int[] {0, 1, 999, 1000, -5}[draws.nextInt(5)] : one(1, 400);
-                compare(run, name, name.equals("depthBy") ? one(-1, 6) : name.equals("seed") ? seed() : flow, flow, false);
+                int flow = draws.nextInt(10) == 0 ? new int[] {0, 1, 999, 1000, Integer.MIN_VALUE}[draws.nextInt(5)] : one(1, 400);
+                compare(run, name, name.equals("depthBy") ? few(6) : name.equals("seed") ? seed() : flow, flow, false);
                 break;
             default:
                 String seeded = SEEDED[draws.nextInt(SEEDED.length)];
                 boolean rope = seeded.equals("yearOf");
-                compare(run, seeded, rope ? one(-1, 7) : seed(), rope ? seed() : one(-1, 61), false);
+                compare(run, seeded, rope ? few(7) : seed(), rope ? seed() : few(61), false);
         }
     }
 
     private int seed() {
-        return draws.nextInt(10) == 0 ? new int[] {-1, 0, 65536, 65537}[draws.nextInt(4)] : one(0, 65536);
+        return draws.nextInt(10) == 0 ? new int[] {-1, 0, 65536, 65537, Integer.MAX_VALUE}[draws.nextInt(5)] : one(0, 65536);
     }
 
     private void compare(int run, String name, int a, int b, boolean c) {

@@ -5,31 +5,16 @@ public final class FaultsTest {
     private static final String ONE = HEAD + "reach a plain wide 9 bank 9;";
     private static final String TWO = ONE + "rope k at a pulls 1 bears 9;";
 
-    /** The text is refused by a FAULT at the sign ^ (which is left out), or else at its end. */
     private static void fault(int number, String marked) {
-        int place = marked.indexOf('^');
-        String text = place < 0 ? marked : marked.substring(0, place) + marked.substring(place + 1);
-        RiverCorset x = new RiverCorset();
-        check.refused(x, text, Check.river(x, text), 4);
-        check.due("fault() of " + text, x.fault(), number);
-        check.due("where() of " + text, x.where(), place < 0 ? text.length() : place);
-        check.due("size(2) of " + text, x.size(2), 0);
-        check.due("size(11) of " + text, x.size(11), 0);
+        check.fault(number, marked);
     }
 
     private static void good(int reaches, String text) {
-        RiverCorset x = new RiverCorset();
-        check.fine(x, text, Check.river(x, text), reaches);
-        check.due("fault() of " + text, x.fault(), 0);
-        check.due("where() of " + text, x.where(), -1);
+        check.good(reaches, text);
     }
 
     private static String many(String line, int times) {
-        StringBuilder lines = new StringBuilder();
-        for (int i = 0; i < times; i++) {
-            lines.append(line.replace('#', (char) ('l' + i)));
-        }
-        return lines.toString();
+        return Check.many(line, times);
     }
 
     public static void main(String[] args) {

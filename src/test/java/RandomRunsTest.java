@@ -3,7 +3,9 @@ import java.util.Random;
 /** Runs of calls by draws, each answer held against the oracle's, TROUBLE and place too. */
 public final class RandomRunsTest {
     private static final Check check = new Check();
-    private static final int RUNS = 4000;
+    private static final int RUNS = 6000;
+    /** Nothing is promised behind the 512th call; a text takes 45 of feed and five more. */
+    private static final int MOST_CALLS = 512 - 50;
     private static final String[] NO_NUMBER = {"fault", "where", "trouble", "undo", "below", "harm", "spills",
         "outOfLaw", "narrowest", "worn", "spilt", "safeFlow", "lacing", "length", "lengthSum", "lacings",
         "bestChange", "changeHarm", "bestBoat", "fits", "could", "surely", "ask", "askLeaves", "judge", "rests",
@@ -20,6 +22,7 @@ public final class RandomRunsTest {
     private final Random draws;
     private final RiverCorset x = new RiverCorset();
     private final Oracle oracle = new Oracle();
+    private int calls = 0;
 
     private RandomRunsTest(long seed) {
         draws = new Random(seed);
@@ -34,10 +37,10 @@ public final class RandomRunsTest {
 
     private void run(int run) {
         int texts = run % 4 == 0 ? 25 : 1 + draws.nextInt(3);
-        for (int i = 0; i < texts; i++) {
+        for (int i = 0; i < texts && calls < MOST_CALLS; i++) {
             tell(run);
-            int calls = run % 4 == 0 ? draws.nextInt(4) : draws.nextInt(120);
-            for (int j = 0; j < calls; j++) {
+            int questions = run % 4 == 0 ? draws.nextInt(4) : draws.nextInt(120);
+            for (int j = 0; j < questions && calls < MOST_CALLS; j++) {
                 ask(run);
             }
         }
@@ -64,10 +67,12 @@ public final class RandomRunsTest {
                 int sign = from + i < text.length() ? text.charAt(from + i) : draws.nextInt(256);
                 five[i / 4] = five[i / 4] << 8 | sign & 255;
             }
+            calls++;
             check.due("run " + run + " feed", x.feed(five[0], five[1], five[2], five[3], five[4]), oracle.feed(five));
         }
         int n = draws.nextInt(20) == 0 ? few(920) : text.length();
         compare(run, "river", n, 0, false);
+        calls += 2;
         check.due("run " + run + " fault of " + text, x.fault(), oracle.fault);
         check.due("run " + run + " where of " + text, x.where(), oracle.where());
     }
@@ -148,6 +153,7 @@ public final class RandomRunsTest {
     }
 
     private void compare(int run, String name, int a, int b, boolean c) {
+        calls += 2;
         String call = "run " + run + " " + name + "(" + a + ", " + b + ", " + c + ")";
         check.due(call, real(name, a, b, c), oracle.call(name, a, b, c));
         check.due("trouble() behind " + call, x.trouble(), oracle.trouble);
